@@ -704,8 +704,8 @@ public final class RulerBench {
 
         void multiplyFrom(Ruler other, int k) {
             begin(other.round);
-            for (int i = 0; i < other.count && round > 0; i++) {
-                insert(other.at(i) * k % round);
+            for (int i = 0; i < other.count && i < other.marks.length && round > 0; i++) {
+                insert(other.marks[i] * k % round);
             }
         }
 
@@ -814,6 +814,10 @@ public final class RulerBench {
     private static final class Forms {
         private final Ruler image = new Ruler();
         private final Ruler first = new Ruler();
+        // The numbers without a common divisor with a ROUND; a search asks for thousands of FORMS of one ROUND.
+        private final int[] units = new int[WIDEST_ROUND];
+        private int unitCount;
+        private int unitRound;
 
         Ruler formOf(Ruler ruler) {
             first.copy(ruler);
@@ -822,10 +826,9 @@ public final class RulerBench {
                 first.copy(image.isBefore(ruler) ? image : ruler);
                 return first;
             }
-            for (int a = 1; a < ruler.round; a++) {
-                if (commonDivisor(a, ruler.round) == 1) {
-                    lowerBy(ruler, a);
-                }
+            findUnits(ruler.round);
+            for (int i = 0; i < unitCount; i++) {
+                lowerBy(ruler, units[i]);
             }
             return first;
         }
@@ -833,12 +836,27 @@ public final class RulerBench {
         /** The same as whether formOf() leaves a RING as it is, but ends with the first that is before it. */
         boolean isOwnRingForm(Ruler ring) {
             first.copy(ring);
-            for (int a = 1; a < ring.round; a++) {
-                if (commonDivisor(a, ring.round) == 1 && lowerBy(ring, a)) {
+            findUnits(ring.round);
+            for (int i = 0; i < unitCount; i++) {
+                if (lowerBy(ring, units[i])) {
                     return false;
                 }
             }
             return true;
+        }
+
+        private void findUnits(int round) {
+            if (round == unitRound) {
+                return;
+            }
+            unitRound = round;
+            unitCount = 0;
+            for (int a = 1; a < round && unitCount < units.length; a++) {
+                if (commonDivisor(a, round) == 1) {
+                    units[unitCount] = a;
+                    unitCount++;
+                }
+            }
         }
 
         /** Each MARK of the RING times a is moved to 0 once; whether one of these is before the first so far. */
@@ -855,10 +873,10 @@ public final class RulerBench {
         }
 
         private boolean isMovedBefore(int start) {
-            for (int i = 1; i < image.count; i++) {
-                int x = movedMark(start, i);
-                if (x != first.at(i)) {
-                    return x < first.at(i);
+            for (int i = 1; i < image.count && i < first.marks.length; i++) {
+                int unlike = movedMark(start, i) - first.marks[i];
+                if (unlike != 0) {
+                    return unlike < 0;
                 }
             }
             return false;
@@ -873,7 +891,7 @@ public final class RulerBench {
 
         private int movedMark(int start, int i) {
             int place = start + i < image.count ? start + i : start + i - image.count;
-            if (!image.has(start) || !image.has(place)) {
+            if (place < 0 || place >= image.marks.length || start < 0 || start >= image.marks.length) {
                 return NONE;
             }
             int x = image.marks[place] - image.marks[start];
