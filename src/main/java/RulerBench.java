@@ -563,7 +563,7 @@ public final class RulerBench {
     }
 
     private static final class Stick {
-        static final int WIDEST_KIND = 2;
+        private static final int WIDEST_KIND = 2;
 
         private final long[] row = new long[MOST_MARKS];
         private int kind;
@@ -678,11 +678,9 @@ public final class RulerBench {
         }
 
         void copy(Ruler other) {
-            if (other != this) {
-                System.arraycopy(other.marks, 0, marks, 0, marks.length);
-                count = other.count;
-                round = other.round;
-            }
+            System.arraycopy(other.marks, 0, marks, 0, marks.length);
+            count = other.count;
+            round = other.round;
         }
 
         void readMask(long mask, int newRound) {
@@ -820,14 +818,14 @@ public final class RulerBench {
         private int unitRound;
 
         Ruler formOf(Ruler ruler) {
-            first.copy(ruler);
             if (!ruler.isRing()) {
                 image.turnFrom(ruler);
                 first.copy(image.isBefore(ruler) ? image : ruler);
                 return first;
             }
+            first.copy(ruler);
             findUnits(ruler.round);
-            for (int i = 0; i < unitCount; i++) {
+            for (int i = 0; i < unitCount && i < units.length; i++) {
                 lowerBy(ruler, units[i]);
             }
             return first;
@@ -837,7 +835,7 @@ public final class RulerBench {
         boolean isOwnRingForm(Ruler ring) {
             first.copy(ring);
             findUnits(ring.round);
-            for (int i = 0; i < unitCount; i++) {
+            for (int i = 0; i < unitCount && i < units.length; i++) {
                 if (lowerBy(ring, units[i])) {
                     return false;
                 }
@@ -950,19 +948,14 @@ public final class RulerBench {
             if (!knows(marks)) {
                 return new long[0];
             }
-            long[] row = kept[marks];
-            // So many lengths are unlike that no shorter RULER has room for them; one that is found first is shortest.
-            for (int length = marks * (marks - 1) / 2; row == null && length <= FARTHEST; length++) {
-                row = upTo(marks, length);
-                if (row.length == 0) {
-                    row = null;
+            // So many lengths are unlike that no shorter RULER has room for them; the first LENGTH with one is the least.
+            for (int length = marks * (marks - 1) / 2; kept[marks] == null && length <= FARTHEST; length++) {
+                long[] row = upTo(marks, length);
+                if (row.length > 0) {
+                    kept[marks] = row;
                 }
             }
-            if (row == null) {
-                row = new long[0];
-            }
-            kept[marks] = row;
-            return row;
+            return kept[marks] == null ? new long[0] : kept[marks];
         }
 
         /** All of so many MARKS that are no longer than a LENGTH, each its own FORM, in ORDER. */
@@ -1029,7 +1022,8 @@ public final class RulerBench {
             if (length == 0) {
                 found.note(1L);
             }
-            for (marks = 2; found.size == 0 && marks <= length + 1; marks++) {
+            for (int tried = 2; found.size == 0 && tried <= length + 1; tried++) {
+                marks = tried;
                 extend(1L | 1L << length, 0, marks - 2, 1L, 1L << length);
             }
             return found.row();

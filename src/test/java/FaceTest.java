@@ -64,9 +64,11 @@ public final class FaceTest {
             names.add(member.getName());
         }
         check("methods", face, new TreeSet<>(Arrays.asList(FACE)));
+        check("few classes", RulerBench.class.getDeclaredClasses().length <= 11, true);
         for (Class<?> inside : RulerBench.class.getDeclaredClasses()) {
             check(inside + " is static", Modifier.isStatic(inside.getModifiers()), true);
             for (Method method : inside.getDeclaredMethods()) {
+                check(inside + "." + method.getName() + " has few parameters", method.getParameterCount() <= 7, true);
                 check(inside + " has a public name, " + method.getName(), names.contains(method.getName()), false);
             }
         }
