@@ -377,8 +377,10 @@ public final class PromiseTest {
         refused("above 1,000", x, x.grow(3), 7);
         due("as it was", shown(x, 3), "0 1 1000");
         set(x, 3, 0, 1, 997);
-        due("just 1,000", x, x.grow(3), 999L, 0);
+        due("below 1,000", x, x.grow(3), 999L, 0);
         refused("no more", x, x.grow(3), 7);
+        set(x, 3, 0, 999);
+        due("just 1,000", x, x.grow(3), 1000L, 0);
         // 24 MARKS up to 1,000 without a length twice: 9 is asked before 7.
         x.lines(19, 4);
         x.open(4, 0, 400, 4);
