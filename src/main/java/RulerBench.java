@@ -220,7 +220,7 @@ public final class RulerBench {
             lengths.measure(shelves[shelf]);
             fault = growFault(shelves[shelf]);
         }
-        // What is asked last has a lesser number than what is asked before: here alone that matters.
+        // The document has 7 asked last here, behind 8 and 9.
         int next = fault == FINE ? lengths.nextUnlike(shelves[shelf]) : NONE;
         if (!passes(fault == FINE && next == NONE ? NOT_RISING : fault)) {
             return NONE;
@@ -380,7 +380,7 @@ public final class RulerBench {
         return true;
     }
 
-    // ---- What may stand against a call, asked in the order of the STATUS numbers.
+    // ---- What may stand against a call, asked in the order of the STATUS numbers (but for grow and apart).
 
     private boolean passes(int fault) {
         status = fault;
