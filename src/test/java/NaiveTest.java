@@ -2,10 +2,15 @@ import java.util.Random;
 
 /** The class and the naive model are given the same calls: each search whole, then many runs by lot. */
 public final class NaiveTest {
+    /** What an object answers after so many calls is free. */
+    private static final int MOST_CALLS = 512;
+    /** A STICK filled, a call, and a SHELF looked at take fewer calls than this. */
+    private static final int STEP = 128;
     private static int wrong = 0;
 
-    private RulerBench bench = new RulerBench();
-    private Naive naive = new Naive();
+    private RulerBench bench;
+    private Naive naive;
+    private int calls;
     private final StringBuilder log = new StringBuilder();
 
     private static final String[] CALLS = {
@@ -18,15 +23,29 @@ public final class NaiveTest {
         return b ? 1 : 0;
     }
 
+    private void begin() {
+        bench = new RulerBench();
+        naive = new Naive();
+        calls = 0;
+        log.setLength(0);
+    }
+
+    private boolean isWorn() {
+        return calls > MOST_CALLS - STEP;
+    }
+
     private void due(String call, long got, long want) {
         log.append(call).append(" -> ").append(got).append('\n');
-        if (wrong < 5 && (got != want || bench.status() != naive.status())) {
-            System.out.println(log.substring(Math.max(0, log.length() - 800)) + "wrong: due is " + want + ", STATUS " + bench.status() + ", due is "
-                + naive.status());
+        int status = bench.status();
+        calls += 2;
+        if (got == want && status == naive.status() && calls <= MOST_CALLS) {
+            return;
         }
-        if (got != want || bench.status() != naive.status()) {
-            wrong++;
+        if (wrong < 5) {
+            System.out.println(log.substring(Math.max(0, log.length() - 800)) + "wrong: due is " + want + ", STATUS " + status + ", due is "
+                + naive.status() + " (with " + calls + " calls)");
         }
+        wrong++;
     }
 
     private void call(String name, long... a) {
@@ -87,28 +106,43 @@ public final class NaiveTest {
         }
     }
 
+    /** A search that puts what it finds on SHELF 3, on a new object if the one there is has been called too often. */
+    private void search(String name, long... a) {
+        if (isWorn()) {
+            begin();
+        }
+        long[] all = java.util.Arrays.copyOf(a, a.length + 1);
+        all[a.length] = 3;
+        call(name, all);
+        look(3);
+    }
+
+    private void ask(String name, long... a) {
+        if (isWorn()) {
+            begin();
+        }
+        call(name, a);
+    }
+
     private void checkSearches() {
         for (int marks = 0; marks <= 8; marks++) {
-            call("shortest", marks);
-            call("many", marks);
-            for (int i = -1; i <= Math.max(0, naive.many(marks)); i++) {
-                call("best", marks, i, 3);
-                look(3);
+            ask("shortest", marks);
+            ask("many", marks);
+            for (int i = -1; i <= (marks < 1 || marks > 7 ? 0 : Naive.bestOf(marks).size()); i++) {
+                search("best", marks, i);
             }
         }
         for (int length = -1; length <= 25; length++) {
-            call("fewest", length);
+            ask("fewest", length);
             for (int i = -1; i <= (length < 0 || length > 24 ? 0 : Naive.leanOf(length).size()); i++) {
-                call("lean", length, i, 4);
-                look(4);
+                search("lean", length, i);
             }
         }
         for (int round = 1; round <= 41; round++) {
             for (int marks = 0; marks <= 7; marks++) {
                 boolean known = round >= 2 && round <= 40 && marks >= 1 && marks <= 6;
                 for (int i = -1; i <= (known ? Naive.ringsOf(round, marks).size() : 0); i++) {
-                    call("rings", round, marks, i, 5);
-                    look(5);
+                    search("rings", round, marks, i);
                 }
             }
         }
@@ -118,23 +152,53 @@ public final class NaiveTest {
         for (int marks = 1; marks <= 7; marks++) {
             for (int length = 0; length <= 21; length++) {
                 for (int what = -1; what <= 2; what++) {
-                    call("cases", marks, length, what);
+                    ask("cases", marks, length, what);
                 }
             }
         }
         for (int rulers = 0; rulers <= 4; rulers++) {
             for (int marks = 1; marks <= 5; marks++) {
                 for (int k = -1; k <= rulers; k++) {
-                    call("gang", rulers, marks, k, 6);
-                    look(6);
+                    search("gang", rulers, marks, k);
                 }
             }
         }
         for (int p = -1; p <= 24; p++) {
-            call("lines", p, 7);
-            look(7);
-            call("powers", p, 7);
-            look(7);
+            search("lines", p);
+            search("powers", p);
+        }
+    }
+
+    /** One object for all searches of a kind, so that what it keeps of one can't come up as another. */
+    private void checkKept() {
+        begin();
+        for (int round = 2; round <= 40; round++) {
+            for (int marks = 1; marks <= 6; marks++) {
+                call("rings", round, marks, 0, 3);
+            }
+        }
+        begin();
+        for (int marks = 2; marks <= 6; marks++) {
+            for (int length = 1; length <= 20; length++) {
+                call("cases", marks, length, length % 2);
+            }
+        }
+        for (int length = 0; length <= 24; length++) {
+            call("lean", length, 1, 3);
+        }
+        for (int marks = 1; marks <= 7; marks++) {
+            call("best", marks, 1, 3);
+            call("shortest", marks);
+            call("gang", 1, marks, 0, 3);
+            call("gang", 2, marks, 1, 3);
+            call("gang", 3, marks, 2, 3);
+            call("tell", 3, 2);
+        }
+        for (int p = 2; p <= 19; p++) {
+            call("lines", p, 3);
+            call("powers", p, 4);
+            call("mark", 3, 4);
+            call("mark", 4, 4);
         }
     }
 
@@ -144,14 +208,13 @@ public final class NaiveTest {
             : low + lot.nextInt(high - low + 1);
     }
 
-    /** A run of 512 calls; few STICKS and SHELVES, so that calls meet one another's work. */
+    /** A run as long as an object may be used; few STICKS and SHELVES, so that calls meet one another's work. */
     private void runByLot(long seed) {
         Random lot = new Random(seed);
         int used = 2 + lot.nextInt(4);
         int far = lot.nextInt(3) == 0 ? 1000 : 12 + lot.nextInt(60);
-        bench = new RulerBench();
-        naive = new Naive();
-        for (int n = 0; n < 512; n++) {
+        begin();
+        while (!isWorn()) {
             if (lot.nextInt(30) == 0) {
                 fillStick(lot, far);
             }
@@ -160,10 +223,7 @@ public final class NaiveTest {
             }
             callByLot(lot, CALLS[lot.nextInt(CALLS.length)], used - 1, far);
         }
-        for (int shelf = 0; shelf < 16; shelf++) {
-            look(shelf);
-        }
-        log.setLength(0);
+        look(lot.nextInt(used));
     }
 
     private void fillStick(Random lot, int far) {
@@ -196,7 +256,7 @@ public final class NaiveTest {
             case "measures": call(name, shelf, near(lot, 1, far)); break;
             case "lacks": case "twice": case "grow": call(name, shelf); break;
             case "add": call(name, shelf, lot.nextInt(9) == 0 ? near(lot, 1, 1000) : near(lot, 1, far)); break;
-            case "take": call(name, shelf, lot.nextBoolean() ? bench.mark(shelf, lot.nextInt(6)) : near(lot, 0, far)); break;
+            case "take": call(name, shelf, lot.nextBoolean() ? naive.mark(shelf, lot.nextInt(6)) : near(lot, 0, far)); break;
             case "turn": case "form": case "alike": call(name, shelf, to); break;
             case "factor": call(name, shelf, lot.nextInt(3) == 0 ? near(lot, 1, 400) : near(lot, 1, 20), to); break;
             case "open": call(name, shelf, near(lot, 0, 5), lot.nextBoolean() ? 400 : near(lot, 0, far), to); break;
@@ -219,12 +279,12 @@ public final class NaiveTest {
     }
 
     public static void main(String[] args) {
-        int runs = args.length > 0 ? Integer.parseInt(args[0]) : 300;
+        int runs = args.length > 0 ? Integer.parseInt(args[0]) : 900;
         NaiveTest test = new NaiveTest();
+        test.begin();
         test.checkSearches();
-        test.log.setLength(0);
         test.checkCounts();
-        test.log.setLength(0);
+        test.checkKept();
         for (long seed = 1; seed <= runs; seed++) {
             test.runByLot(seed);
         }
