@@ -172,7 +172,7 @@ final class RulerBounds extends Sentences {
 
     @Says(in = "Terms", words = "for an a from 1 to n that has no common divisor with n but 1")
     static void alikeByAnA() {
-        // 0 2 3 goes to 0 1 3 by a = 8 (and b = 3) alone, 0 2 6 by a = 5 or so, 0 2 8 by a = 1.
+        // 0 2 3 goes to 0 1 3 by a = 8 (and b = 3) alone, 0 2 6 by a = 5, 0 2 8 by a = 1 (and b = 1).
         given("11 = 0 1 3 / 9", "12 = 0 2 3 / 9", "13 = 0 2 6 / 9", "14 = 0 2 8 / 9").gives(1, "alike(11, 12)")
             .gives(1, "alike(12, 11)").gives(1, "alike(11, 13)").gives(1, "alike(11, 14)").gives(1, "alike(13, 14)");
         given("11 = 0 1 / 12", "12 = 0 2 / 12", "13 = 0 3 / 12", "14 = 0 4 / 12").gives(0, "alike(11, 12)")
