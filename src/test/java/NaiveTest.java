@@ -4,8 +4,8 @@ import java.util.Random;
 public final class NaiveTest {
     /** What an object answers after so many calls is free. */
     private static final int MOST_CALLS = 512;
-    /** A STICK filled, a call, and a SHELF looked at take fewer calls than this. */
-    private static final int STEP = 128;
+    /** A STICK filled, a call, and a SHELF looked at before it and after it take fewer calls than this. */
+    private static final int STEP = 176;
     private static int wrong = 0;
 
     private RulerBench bench;
