@@ -33,7 +33,7 @@ public final class RoomTest {
             x.lean(length, 0, 1);
             calls++;
         }
-        for (int n = 1; calls < CALLS; n++) {
+        for (int n = 1; calls + 5 <= CALLS; n++) {
             x.cases(2 + n % 5, 1 + n % 20, 0);
             x.gang(1 + n % 3, 2 + n % 3, 0, 2);
             x.best(1 + n % 7, 0, 3);
@@ -46,7 +46,7 @@ public final class RoomTest {
     private static void allRulers() {
         RulerBench x = new RulerBench();
         x.lines(19, 0);
-        for (int calls = 1; calls < CALLS; calls += 10) {
+        for (int calls = 1; calls + 10 <= CALLS; calls += 10) {
             x.stick(calls % 6, calls % 3, 24);
             x.form(0, 1);
             x.alike(0, 1);
