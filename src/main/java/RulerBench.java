@@ -948,7 +948,7 @@ public final class RulerBench {
             if (!knows(marks)) {
                 return new long[0];
             }
-            // So many lengths are unlike that no shorter RULER has room for them; the first LENGTH with one is the least.
+            // So many unlike lengths have no room on a shorter RULER; the first LENGTH with one is the least.
             for (int length = marks * (marks - 1) / 2; kept[marks] == null && length <= FARTHEST; length++) {
                 long[] row = upTo(marks, length);
                 if (row.length > 0) {
@@ -1263,7 +1263,7 @@ public final class RulerBench {
         }
     }
 
-    /** Powers of a t whose powers are a whole field but 0: rows of rests by p, place i for what there is of t's power i. */
+    /** Powers of a t that are a whole field but 0: rows of rests by p, in place i what there is of t's power i. */
     private static final class Field {
         private static final int CUBIC = 3;
         private static final int SQUARE = 2;

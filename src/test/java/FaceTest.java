@@ -6,23 +6,13 @@ import java.lang.reflect.Modifier;
 import java.nio.file.Files;
 import java.nio.file.Path;
 import java.util.ArrayList;
-import java.util.Arrays;
 import java.util.Collections;
 import java.util.List;
 import java.util.TreeSet;
+import java.util.regex.Pattern;
 
 /** The class has the document's face and no other, and its file keeps to what LANGUAGE.md leaves of Java. */
 public final class FaceTest {
-    private static final String[] FACE = {
-        "int status()", "boolean stick(int, int, int)", "boolean drop(int)", "boolean put(int, int, long)",
-        "long number(int, int)", "boolean cut(int, int)", "boolean fail()", "int ruler(int, int, int)",
-        "boolean ring(int, int)", "int tell(int, int)", "int mark(int, int)", "int measures(int, int)",
-        "int lacks(int)", "int twice(int)", "int add(int, int)", "int take(int, int)", "int grow(int)",
-        "boolean turn(int, int)", "int form(int, int)", "int alike(int, int)", "boolean factor(int, int, int)",
-        "int open(int, int, int, int)", "int shortest(int)", "int many(int)", "boolean best(int, int, int)",
-        "int fewest(int)", "int lean(int, int, int)", "int rings(int, int, int, int)", "int cases(int, int, int)",
-        "int apart(int)", "int gang(int, int, int, int)", "boolean lines(int, int)", "boolean powers(int, int)",
-    };
     private static final String[] BARRED = {
         "throw", "try", "catch", "synchronized", "assert", "->", "::", "Exact", "System.out", "Random", "Object",
         "hashCode", "toString", "protected", "volatile", "native", "transient",
@@ -54,7 +44,16 @@ public final class FaceTest {
         return found;
     }
 
-    private static void checkFace() {
+    /** The document's methods, without the names of what they take. */
+    private static TreeSet<String> promised() throws Exception {
+        TreeSet<String> found = new TreeSet<>();
+        for (String method : Document.read().methods()) {
+            found.add(method.replaceAll(" \\w+(?=[,)])", ""));
+        }
+        return found;
+    }
+
+    private static void checkFace() throws Exception {
         TreeSet<String> face = new TreeSet<>();
         TreeSet<String> names = new TreeSet<>();
         for (Member member : open(RulerBench.class.getDeclaredMethods())) {
@@ -63,7 +62,8 @@ public final class FaceTest {
             face.add(told((Method) member));
             names.add(member.getName());
         }
-        check("methods", face, new TreeSet<>(Arrays.asList(FACE)));
+        check("methods of the document", promised().size(), 33);
+        check("methods", face, promised());
         check("few classes", RulerBench.class.getDeclaredClasses().length <= 11, true);
         for (Class<?> inside : RulerBench.class.getDeclaredClasses()) {
             check(inside + " is static", Modifier.isStatic(inside.getModifiers()), true);
@@ -94,8 +94,8 @@ public final class FaceTest {
         String code = withoutComments(Files.readString(Path.of("src/main/java/RulerBench.java")));
         for (String word : BARRED) {
             boolean plain = Character.isLetter(word.charAt(0)) && !word.equals("Exact");
-            String sought = plain ? "\\b" + java.util.regex.Pattern.quote(word) + "\\b" : java.util.regex.Pattern.quote(word);
-            check("has " + word, java.util.regex.Pattern.compile(sought).matcher(code).find(), false);
+            String edge = plain ? "\\b" : "";
+            check("has " + word, Pattern.compile(edge + Pattern.quote(word) + edge).matcher(code).find(), false);
         }
         List<String> imports = new ArrayList<>();
         for (String line : code.split("\n")) {

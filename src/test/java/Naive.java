@@ -32,7 +32,8 @@ final class Naive {
         int times = 0;
         for (int x : r.marks) {
             for (int y : r.marks) {
-                if (r.round == 0 ? y - x == d && d > 0 : d >= 1 && d <= r.round - 1 && (y - x + r.round) % r.round == d) {
+                boolean inRing = d <= r.round - 1 && r.round > 0 && (y - x + r.round) % r.round == d;
+                if (d > 0 && (r.round == 0 ? y - x == d : inRing)) {
                     times++;
                 }
             }

@@ -42,8 +42,8 @@ public final class NaiveTest {
             return;
         }
         if (wrong < 5) {
-            System.out.println(log.substring(Math.max(0, log.length() - 800)) + "wrong: due is " + want + ", STATUS " + status + ", due is "
-                + naive.status() + " (with " + calls + " calls)");
+            System.out.println(log.substring(Math.max(0, log.length() - 800)) + "wrong: due is " + want + ", STATUS "
+                + status + ", due is " + naive.status() + " (with " + calls + " calls)");
         }
         wrong++;
     }
@@ -242,24 +242,25 @@ public final class NaiveTest {
         int shelf = near(lot, 0, top);
         int to = near(lot, 0, top);
         int stick = near(lot, 0, 2);
+        boolean even = lot.nextBoolean();
         switch (name) {
             case "stick": call(name, stick, near(lot, 0, 2), near(lot, 0, 24)); break;
             case "drop": call(name, lot.nextInt(3) == 0 ? stick : 6); break;
-            case "put": call(name, stick, near(lot, 0, 10), lot.nextBoolean() ? lot.nextLong() : lot.nextInt(100)); break;
+            case "put": call(name, stick, near(lot, 0, 10), even ? lot.nextLong() : lot.nextInt(100)); break;
             case "number": call(name, stick, near(lot, 0, 24)); break;
             case "cut": call(name, stick, near(lot, 0, 24)); break;
             case "fail": call(name); break;
             case "ruler": call(name, shelf, stick, near(lot, 0, 12)); break;
-            case "ring": call(name, shelf, lot.nextBoolean() ? near(lot, 2, 400) : near(lot, 2, 2 * far)); break;
+            case "ring": call(name, shelf, even ? near(lot, 2, 400) : near(lot, 2, 2 * far)); break;
             case "tell": call(name, shelf, near(lot, 0, 3)); break;
             case "mark": call(name, shelf, near(lot, 0, 10)); break;
             case "measures": call(name, shelf, near(lot, 1, far)); break;
             case "lacks": case "twice": case "grow": call(name, shelf); break;
             case "add": call(name, shelf, lot.nextInt(9) == 0 ? near(lot, 1, 1000) : near(lot, 1, far)); break;
-            case "take": call(name, shelf, lot.nextBoolean() ? naive.mark(shelf, lot.nextInt(6)) : near(lot, 0, far)); break;
+            case "take": call(name, shelf, even ? naive.mark(shelf, lot.nextInt(6)) : near(lot, 0, far)); break;
             case "turn": case "form": case "alike": call(name, shelf, to); break;
             case "factor": call(name, shelf, lot.nextInt(3) == 0 ? near(lot, 1, 400) : near(lot, 1, 20), to); break;
-            case "open": call(name, shelf, near(lot, 0, 5), lot.nextBoolean() ? 400 : near(lot, 0, far), to); break;
+            case "open": call(name, shelf, near(lot, 0, 5), even ? 400 : near(lot, 0, far), to); break;
             case "apart": call(name, lot.nextInt(20) == 0 ? near(lot, 0, 65535) : lot.nextInt(1 << top + 1)); break;
             default: searchByLot(lot, name, to); break;
         }

@@ -134,7 +134,8 @@ public final class PromiseTest {
         RulerBench x = new RulerBench();
         refused("no STICK", x, x.put(6, 0, 1), 1);
         refused("MISSING", x, x.put(1, 99, 1), 3);
-        long[] given = {127, 128, 255, 256, -128, -129, 2147483647L, 2147483648L, 4294967295L, -2147483649L, Long.MAX_VALUE, Long.MIN_VALUE};
+        long[] given = {127, 128, 255, 256, -128, -129, 2147483647L, 2147483648L, 4294967295L, -2147483649L,
+            Long.MAX_VALUE, Long.MIN_VALUE};
         long[] small = {127, -128, -1, 0, -128, 127, -1, 0, -1, -1, -1, 0};
         long[] middle = {127, 128, 255, 256, -128, -129, 2147483647L, -2147483648L, -1, 2147483647L, -1, 0};
         for (int kind = 0; kind < 3; kind++) {
@@ -360,7 +361,8 @@ public final class PromiseTest {
         RulerBench x = with(0, 4);
         refused("no SHELF", x, x.grow(16), 2);
         refused("nothing", x, x.grow(1), 4);
-        int[] greedy = {1, 3, 7, 12, 20, 30, 44, 65, 80, 96, 122, 147, 181, 203, 251, 289, 360, 400, 474, 564, 592, 661, 774};
+        int[] greedy = {1, 3, 7, 12, 20, 30, 44, 65, 80, 96, 122, 147, 181, 203, 251, 289, 360, 400, 474, 564,
+            592, 661, 774};
         for (int y : greedy) {
             due("the greedy one", x, x.grow(0), (long) y, 0);
         }
@@ -546,7 +548,8 @@ public final class PromiseTest {
         refused("number -1", x, x.best(7, -1, 0), 9);
         refused("number 5", x, x.best(7, 5, 0), 9);
         due("nothing came", shown(x, 0), "-");
-        String[] seven = {"0 1 4 10 18 23 25", "0 1 7 11 20 23 25", "0 1 11 16 19 23 25", "0 2 3 10 16 21 25", "0 2 7 13 21 22 25"};
+        String[] seven = {"0 1 4 10 18 23 25", "0 1 7 11 20 23 25", "0 1 11 16 19 23 25", "0 2 3 10 16 21 25",
+            "0 2 7 13 21 22 25"};
         for (int i = 0; i < 5; i++) {
             due("BEST " + i, x, x.best(7, i, i), true, 0);
             due("BEST " + i, shown(x, i), seven[i]);

@@ -64,7 +64,8 @@ final class RulerBounds extends Sentences {
         given("11 = 0 400").refuses(5, "ring(11, 400)", "ring(11, 401)");
     }
 
-    @Says(in = "Terms", words = "MEASURES a length d above 0 as often as two of its MARKS differ by d")
+    @Says(in = "Terms",
+        words = "A RULER that is no RING MEASURES a length d above 0 as often as two of its MARKS differ by d")
     static void measuredByARuler() {
         given().gives(23, "measures(3, 1)").gives(22, "measures(3, 2)").gives(1, "measures(3, 23)")
             .gives(0, "measures(3, 24)");
@@ -154,7 +155,8 @@ final class RulerBounds extends Sentences {
         given().gives(true, "ring(0, 7)", "0 1 3 / 7").gives(true, "ring(0, 8)", "0 1 3 / 8");
     }
 
-    @Says(in = "Terms", words = "in ORDER by the first MARK in which they differ, the lesser first")
+    @Says(in = "Terms",
+        words = "RULERS of as many MARKS are in ORDER by the first MARK in which they differ, the lesser first")
     static void order() {
         given("11 = 0 1 3 4 9", "12 = 0 5 6 8 9").gives(1, "form(11, 13)", "0 1 3 4 9")
             .gives(0, "form(12, 13)", "0 1 3 4 9");
@@ -317,7 +319,7 @@ final class RulerBounds extends Sentences {
         given().refuses(5, "tell(0, -1)", "tell(0, 4)", "tell(0, MIN)", "tell(0, MAX)", "tell(2, 4)");
     }
 
-    @Says(in = "Promise 11", words = "what 0: KIND, 1: MARKS, 2: LENGTH, 3: ROUND (0 of no RING)")
+    @Says(in = "Promise 11", words = "Of a SHELF, what 0: KIND, 1: MARKS, 2: LENGTH, 3: ROUND (0 of no RING)")
     static void tellWhat() {
         given().gives(4, "tell(0, 0)").gives(3, "tell(0, 1)").gives(3, "tell(0, 2)").gives(0, "tell(0, 3)");
         given().gives(5, "tell(2, 0)").gives(3, "tell(2, 1)").gives(3, "tell(2, 2)").gives(7, "tell(2, 3)");
@@ -497,7 +499,8 @@ final class RulerBounds extends Sentences {
         given("11 = " + TO_22 + " 1000").refuses(8, "grow(11)");
     }
 
-    @Says(in = "Promise 18", words = "The least MARK above LENGTH with which no length is twice")
+    @Says(in = "Promise 18",
+        words = "The least MARK above LENGTH with which no length is twice comes to a SHELF's RULER")
     static void growByTheLeast() {
         given().gives(1, "grow(5)", "0 1").gives(7, "grow(0)", "0 1 3 7");
         given("11 = 0 1", "12 = 0 2", "13 = 0 3").gives(3, "grow(11)", "0 1 3").gives(3, "grow(12)", "0 2 3")

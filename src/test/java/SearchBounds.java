@@ -33,7 +33,7 @@ final class SearchBounds extends Sentences {
     }
 
     @Says(in = "3. SEARCHES",
-        words = "all of these with that LENGTH, each that is its own FORM, in ORDER, numbered from 0")
+        words = "BEST of m: all of these with that LENGTH, each that is its own FORM, in ORDER, numbered from 0")
     static void bestInOrder() {
         String[][] rows = {{"0"}, {"0 1"}, {"0 1 3"}, {"0 1 4 6"}, {"0 1 4 9 11", "0 2 7 8 11"},
             {"0 1 4 10 12 17", "0 1 4 10 15 17", "0 1 8 11 13 17", "0 1 8 12 14 17"},
@@ -58,7 +58,7 @@ final class SearchBounds extends Sentences {
             .gives(5, "many(7)");
     }
 
-    @Says(in = "Promise 26", words = "comes to a SHELF (2, 5; 9: there is none such)")
+    @Says(in = "Promise 26", words = "BEST i comes to a SHELF (2, 5; 9: there is none such)")
     static void bestOfNoneSuch() {
         refusesNoShelf("best(5, 0, #)");
         given().refuses(5, "best(0, 0, 11)", "best(-1, 0, 11)", "best(8, 0, 11)", "best(MIN, 0, 0)", "best(MAX, 0, 2)");
@@ -94,7 +94,8 @@ final class SearchBounds extends Sentences {
         }
     }
 
-    @Says(in = "3. SEARCHES", words = "all of these with so many MARKS, each that is its own FORM, in ORDER, from 0")
+    @Says(in = "3. SEARCHES",
+        words = "LEAN of n: all of these with so many MARKS, each that is its own FORM, in ORDER, from 0")
     static void leanInOrder() {
         String[] four = {"0 1 2 4", "0 1 3 4"};
         String[] five = {"0 1 2 5", "0 1 3 5"};
@@ -113,7 +114,7 @@ final class SearchBounds extends Sentences {
             .gives(9, "fewest(24)");
     }
 
-    @Says(in = "Promise 28", words = "comes to a SHELF (2, 5; 9): how many there are.")
+    @Says(in = "Promise 28", words = "LEAN i comes to a SHELF (2, 5; 9): how many there are.")
     static void leanOfNoneSuch() {
         refusesNoShelf("lean(6, 0, #)");
         given().refuses(5, "lean(-1, 0, 11)", "lean(25, 0, 11)", "lean(MIN, 0, 0)", "lean(MAX, 0, 2)");
@@ -162,7 +163,8 @@ final class SearchBounds extends Sentences {
             .gives(1, "rings(21, 5, 0, 11)", "0 1 4 14 16 / 21");
     }
 
-    @Says(in = "Promise 29", words = "comes to a SHELF (2, 5; 9): how many there are.")
+    @Says(in = "Promise 29",
+        words = "RING i of a ROUND and so many MARKS comes to a SHELF (2, 5; 9): how many there are.")
     static void ringsOfNoneSuch() {
         refusesNoShelf("rings(7, 3, 0, #)");
         given().refuses(5, "rings(1, 1, 0, 11)", "rings(0, 1, 0, 11)", "rings(-7, 3, 0, 11)", "rings(MIN, 1, 0, 11)",
@@ -194,14 +196,15 @@ final class SearchBounds extends Sentences {
             .gives(0, "cases(6, 1, 1)");
     }
 
-    @Says(in = "3. SEARCHES", words = "if a length is measured twice in it")
+    @Says(in = "3. SEARCHES",
+        words = "A CASE of k MARKS, the last one x, is CLOSED, if a length is measured twice in it")
     static void caseWithALengthTwice() {
         // 0 1 2 would go on to 0 1 2 3 and so on, if it were not CLOSED.
         given().gives(25, "cases(4, 6, 0)").gives(2, "cases(4, 6, 1)");
     }
 
     @Says(in = "3. SEARCHES",
-        words = "if x and the sum of the m - k least lengths above 0 that it does not measure is above n")
+        words = "or if x and the sum of the m - k least lengths above 0 that it does not measure is above n")
     static void caseWithoutRoom() {
         // Of 0 alone, the sum of the m - 1 least lengths is 1, 3, 6, 10 or 15.
         given().gives(1, "cases(3, 2, 0)").gives(7, "cases(3, 3, 0)").gives(1, "cases(4, 5, 0)")
@@ -217,7 +220,8 @@ final class SearchBounds extends Sentences {
             .gives(20, "cases(2, 20, 1)");
     }
 
-    @Says(in = "3. SEARCHES", words = "gone on from with each next MARK y from x + 1 to n, each a CASE")
+    @Says(in = "3. SEARCHES",
+        words = "One that is not CLOSED is gone on from with each next MARK y from x + 1 to n, each a CASE")
     static void caseGoesOn() {
         // 0; 0 1, 0 2, 0 3; 0 1 2, 0 1 3; 0 2 3.
         given().gives(7, "cases(3, 3, 0)").gives(2, "cases(3, 3, 1)");
@@ -328,7 +332,7 @@ final class SearchBounds extends Sentences {
         }
     }
 
-    @Says(in = "Promise 32", words = "RULER k of it (0 to r - 1, else 5)")
+    @Says(in = "Promise 32", words = "GANG: RULER k of it (0 to r - 1, else 5)")
     static void gangRulerThatIsNone() {
         given().refuses(5, "gang(1, 2, -1, 11)", "gang(1, 2, 1, 11)", "gang(2, 3, 2, 11)", "gang(2, 3, -1, 2)",
             "gang(3, 3, 3, 0)",
